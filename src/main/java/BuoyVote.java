@@ -95,17 +95,15 @@ public final class BuoyVote {
     }
 
     public int text(int sort) {
-        // The readers leave what they read where it is taken from here: in draft, or in the spare LAW or PLAN.
-        if (fault(sort) != NONE) {
-            return NONE;
-        }
         switch (sort) {
             case 0:
-                return beginBorough();
+                return draft.faultOf(tape) == NONE ? beginBorough() : NONE;
             case 1:
-                return keepLaw();
+                return laws.spare().faultOf(tape) == NONE ? keepLaw() : NONE;
+            case 2:
+                return plans[planCount].faultOf(tape) == NONE ? keepPlan() : NONE;
             default:
-                return keepPlan();
+                return NONE;
         }
     }
 
@@ -930,7 +928,9 @@ public final class BuoyVote {
         }
 
         void expect(int sign) {
-            if (!take(sign)) {
+            if (wrong == NONE && peek() == sign) {
+                at++;
+            } else {
                 refuse(at);
             }
         }

@@ -59,6 +59,10 @@ public final class ActsTest {
             CHECKS.due("rule(4) in HOUR " + hour, vote.rule(4), rises[hour]);
             vote.hours(1);
         }
+        vote = CHECKS.borough("st1;b;c;c");
+        CHECKS.due("rule(4), t 1", vote.rule(4), 1);
+        vote.hours(1);
+        CHECKS.due("rule(4) an HOUR later, t 1", vote.rule(4), 0);
     }
 
     private static void pull() {
@@ -369,6 +373,11 @@ public final class ActsTest {
             CHECKS.due("perform of " + first, vote.perform(plan), 0);
             CHECKS.due("acts", vote.count(12), 0);
         }
+        // BOAT 1 is at the BUOY in HOUR 1, and past it in HOUR 2.
+        vote = CHECKS.borough("bx5;c;cx9s4");
+        CHECKS.due("one HOUR", vote.run(CHECKS.plan(vote, "g100;h1;s10"), 0), NONE);
+        CHECKS.due("two HOURS", vote.run(CHECKS.plan(vote, "g100;h2;s10"), 0), 2);
+        CHECKS.due("places", vote.run(CHECKS.plan(vote, "g195;g190;g191;g181;g181"), 0), 4);
         vote = new BuoyVote();
         plan = CHECKS.plan(vote, "h1");
         CHECKS.due("run without a BOROUGH", vote.run(plan, 0), HIDDEN);

@@ -5,8 +5,8 @@ import java.util.List;
 import java.util.Map;
 
 /**
- * FAULTS found in another way than BuoyVote does: by Earley's sets over the grammars, in which a set that is empty tells
- * the first sign at which no text can go on.
+ * FAULTS found in another way than BuoyVote does: by Earley's sets over the grammars, in which a set that is empty
+ * tells the first sign at which no text can go on.
  */
 final class FaultModel {
     private static final int NONE = -1;
@@ -41,7 +41,7 @@ final class FaultModel {
         return fault == NONE && !whole(text) ? text.length() : fault;
     }
 
-    /** Words of a right side are parted by blanks; one that has no rules is a sign, or a number's first digit or more. */
+    /** Words of a right side are parted by blanks; one without rules is a sign, or a number's first digit or more. */
     private static void rule(Map<String, List<String>> rules, String left, String... rights) {
         rules.put(left, List.of(rights));
     }

@@ -208,6 +208,10 @@ public final class QuestionsTest {
         CHECKS.due("ask(0) behind a look", vote.ask(0), 6);
         vote.seen(0, 3, 3, 1);
         CHECKS.due("ask(0), nothing fits", vote.ask(0), NONE);
+        // 5 and LIKING less AWAY, CHAIN 9: d 0: 54 to 0, 15 to 1, 31 upright; d 1: 44, 18, 38; d 2: 34, 21, 45.
+        vote = CHECKS.borough("bc9;cv5;cv5");
+        CHECKS.rule(vote, "y:v+l-d");
+        CHECKS.due("upright counts, too", vote.ask(0), 1);
         vote = CHECKS.borough("bc9;cv0;cv0");
         CHECKS.rule(vote, "y:0");
         CHECKS.due("of several the least", vote.ask(0), 0);
@@ -247,6 +251,9 @@ public final class QuestionsTest {
         CHECKS.all("WATCH", new long[] {vote.watch(0), vote.watch(2), vote.watch(4), vote.watch(8), vote.watch(9),
             vote.watch(18)}, 63, 1 + 8 + 32, 4 + 32, 1 + 32, 16, 1);
         CHECKS.all("refused", new long[] {vote.watch(-1), vote.watch(19)}, NONE, NONE);
+        // From 1 and 8 all are seen 1 AWAY; 2 AWAY from 0 and 8, too, and that is less.
+        vote = CHECKS.borough("bx0;bx1;bx8;bx9;bx2;bx7;c;c");
+        CHECKS.all("of several the least", new long[] {vote.watch(1), vote.watch(2)}, 2 + 4, 1 + 4);
     }
 
     private static void fair() {
@@ -295,6 +302,8 @@ public final class QuestionsTest {
         BuoyVote vote = CHECKS.borough("bx9;bx4;by2;cx2y1;cx5y5");
         CHECKS.all("NEAREST", new long[] {vote.nearest(0), vote.nearest(1), vote.nearest(2), vote.nearest(-1)},
             1, 1, NONE, NONE);
+        vote = CHECKS.borough("b;c;cx1");
+        CHECKS.all("of one", new long[] {vote.nearest(0), vote.nearest(1)}, 0, 0);
         CHECKS.due("of several the lowest", CHECKS.borough("bx9;by2;bx4;cx2y1;c").nearest(0), 1);
     }
 
@@ -323,6 +332,8 @@ public final class QuestionsTest {
         CHECKS.all("NEED", new long[] {vote.needs(0, 0), vote.needs(1, 0), vote.needs(0, 1)}, 5, 6, NONE);
         CHECKS.due("LIKING stays", vote.buoy(0, 3), 9);
         CHECKS.due("by CHAIN", CHECKS.borough("bc5;cv2;cv1").needs(0, 0), 3);
+        CHECKS.due("by nine", CHECKS.borough("bc9;cv0;cv1").needs(0, 0), 9);
+        CHECKS.due("by more than nine", CHECKS.borough("bc9;cv0;cv9").needs(0, 0), NONE);
         CHECKS.due("nothing needed", CHECKS.borough("bc5a3;cv6;cv1").needs(0, 0), 0);
         CHECKS.all("refused", new long[] {vote.needs(2, 0), vote.needs(-1, 0), vote.needs(0, 2), vote.needs(0, -1)},
             NONE, NONE, NONE, NONE);
@@ -332,6 +343,7 @@ public final class QuestionsTest {
         BuoyVote vote = CHECKS.borough("bx3y3;bx4y3;bx5y3;bx4y4;bx3y2;cx4y3;cx9y9");
         CHECKS.all("HEARD", new long[] {vote.heard(0), vote.heard(1), vote.heard(2), vote.heard(-1)},
             1 + 2 + 4 + 8, 0, NONE, NONE);
+        CHECKS.due("nothing near", CHECKS.borough("bx5;c;c").heard(0), 0);
     }
 
     private static void middle() {

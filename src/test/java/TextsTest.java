@@ -55,7 +55,8 @@ public final class TextsTest {
         CHECKS.due("count(4) behind it", vote.count(4), 230);
         CHECKS.due("feed of 10 again", vote.feed(0, 0, 0x20202020, 0x20202020, 0x20200000), 240);
         CHECKS.due("feed of none", vote.feed(0, 0, 0, 0, 0), 240);
-        CHECKS.due("feed of one", vote.feed(0, 0, 0, 0, 1), NONE);
+        CHECKS.all("feed of one", new long[] {vote.feed(1, 0, 0, 0, 0), vote.feed(0, 1, 0, 0, 0),
+            vote.feed(0, 0, 1, 0, 0), vote.feed(0, 0, 0, 1, 0), vote.feed(0, 0, 0, 0, 1)}, NONE, NONE, NONE, NONE, NONE);
         CHECKS.due("fault(0) of blanks", vote.fault(0), 240);
     }
 
