@@ -48,8 +48,8 @@ final class ActEdges {
     }
 
     private void rule() {
-        edges.sentence("rule", "The RULES: 0 WIND, 1 the way it blows, 2 HOURS that the TIDE rises, 3 HOURS to a COUNT, "
-            + "4 whether the TIDE rises (1, 0).");
+        edges.sentence("rule", "The RULES: 0 WIND, 1 the way it blows, 2 HOURS that the TIDE rises, 3 HOURS to a "
+            + "COUNT, 4 whether the TIDE rises (1, 0).");
         BuoyVote vote = edges.borough("sw9d3t12h20;b;c;c");
         edges.all("greatest", rules(vote), 9, 3, 12, 20, 1);
         vote.hours(12);
@@ -70,8 +70,8 @@ final class ActEdges {
     }
 
     private void buoy() {
-        edges.sentence("buoy", "Of a BUOY: 0 x, 1 y, 2 CHAIN, 3 .. 5 LIKING of BOAT 0 .. 2, 6 the OLD vote (NONE), 7 BARNACLES, "
-            + "8 the BOAT to which it LEANS (NONE).");
+        edges.sentence("buoy", "Of a BUOY: 0 x, 1 y, 2 CHAIN, 3 .. 5 LIKING of BOAT 0 .. 2, 6 the OLD vote (NONE), 7 "
+            + "BARNACLES, 8 the BOAT to which it LEANS (NONE).");
         BuoyVote vote = edges.borough("bx9y8c7a6e5f4o2r1;b;c;c;c");
         edges.all("told", buoy(vote, 0), 9, 8, 7, 6, 5, 4, 2, 1, NONE);
         edges.all("not told", buoy(vote, 1), 0, 0, 3, 0, 0, 0, NONE, 2, NONE);
@@ -96,8 +96,8 @@ final class ActEdges {
     }
 
     private void boat() {
-        edges.sentence("boat", "Of a BOAT: 0 x, 1 y, 2 SPEED, 3 VOICE, 4 x, 5 y of where it is to ROW, 6 how often it WON, "
-            + "7 to how many it SANG.");
+        edges.sentence("boat", "Of a BOAT: 0 x, 1 y, 2 SPEED, 3 VOICE, 4 x, 5 y of where it is to ROW, 6 how often it "
+            + "WON, 7 to how many it SANG.");
         BuoyVote vote = edges.borough("sh1;bx9y8;cx9y9s4v9;c;cs1v0");
         edges.all("told", boat(vote, 0), 9, 9, 4, 9, 9, 9, 0, 0);
         edges.all("not told", boat(vote, 1), 0, 0, 2, 3, 0, 0, 0, 0);
@@ -139,9 +139,10 @@ final class ActEdges {
 
     private void push() {
         edges.sentence("push", "PUSH of a BOAT at a BUOY now.");
-        edges.sentence("Terms", "PUSH of a BOAT at a BUOY: WIND, if the WIND blows from the BUOY towards it (right: its x is greater; "
-            + "down: its y is greater; left, up: less), WIND less than nothing, if it blows away from it (the other way), 0 if "
-            + "neither; and 1 more, if the TIDE rises and its x is greater, or if it ebbs and its x is less.");
+        edges.sentence("Terms", "PUSH of a BOAT at a BUOY: WIND, if the WIND blows from the BUOY towards it (right: "
+            + "its x is greater; down: its y is greater; left, up: less), WIND less than nothing, if it blows away "
+            + "from it (the other way), 0 if neither; and 1 more, if the TIDE rises and its x is greater, or if it "
+            + "ebbs and its x is less.");
         // By x less, the same, greater (down the rows) and y less, the same, greater: the way is 0 right, 1 down, 2 left, 3 up.
         int[][][] signs = {{{-1, -1, -1}, {0, 0, 0}, {1, 1, 1}}, {{-1, 0, 1}, {-1, 0, 1}, {-1, 0, 1}},
             {{1, 1, 1}, {0, 0, 0}, {-1, -1, -1}}, {{1, 0, -1}, {1, 0, -1}, {1, 0, -1}}};
@@ -215,8 +216,8 @@ final class ActEdges {
         edges.rule(vote, "y:98+v");
         edges.all("98 and 99", new long[] {vote.buoy(0, 8), vote.sways(0, 1)}, 1, 1);
 
-        edges.sentence("Terms",
-            "(none at first: VOICE and LIKING and BARNACLES, if it is the OLD vote, and PUSH, less AWAY)");
+        edges.sentence("Terms", "(none at first: VOICE and LIKING and BARNACLES, if it is the OLD vote, and PUSH, "
+            + "less AWAY)");
         // 9 + 9 + 9 + 10 - 1 is the most, 0 + 0 + 0 - 9 - 18 the least.
         vote = edges.borough("sw9;bx5y5a9o0r9;bx9y9r9;cx6y5v9;cv0");
         edges.all("without a LAW", new long[] {vote.pull(0, 0), vote.pull(1, 1), vote.pull(0, 1)}, 36, -27, -19);
@@ -225,7 +226,8 @@ final class ActEdges {
         edges.due("law(NONE)", vote.law(NONE), true);
         edges.due("without it again", vote.pull(0, 0), 36);
 
-        edges.sentence("Terms", "letters: v VOICE, l LIKING, r BARNACLES (0, if it is not the OLD vote), d AWAY, p PUSH, h the HOUR");
+        edges.sentence("Terms", "letters: v VOICE, l LIKING, r BARNACLES (0, if it is not the OLD vote), d AWAY, p "
+            + "PUSH, h the HOUR");
         vote = edges.borough("sw0;bx2y2a3e4o1r5;bx9r9;cx3y3v6;cx1y2v7");
         edges.rule(vote, "y:r");
         edges.all("r", new long[] {vote.pull(0, 0), vote.pull(0, 1), vote.pull(1, 0), vote.pull(1, 1)}, 0, 5, 0, 0);
@@ -261,8 +263,8 @@ final class ActEdges {
     }
 
     private void leans() {
-        edges.sentence("Terms", "A BUOY LEANS to the BOAT with the greatest DRAW, if that is no less than its CHAIN and no other has as "
-            + "much; else it stays upright.");
+        edges.sentence("Terms", "A BUOY LEANS to the BOAT with the greatest DRAW, if that is no less than its CHAIN "
+            + "and no other has as much; else it stays upright.");
         for (int chain = 0; chain <= 9; chain++) {
             for (int voice = 0; voice <= 9; voice++) {
                 BuoyVote vote = edges.borough("bc" + chain + ";cv0;cv" + voice);
@@ -281,8 +283,8 @@ final class ActEdges {
     }
 
     private void rowing() {
-        edges.sentence("Terms", "An HOUR (0 at first): (1) each BOAT rows SPEED cells (fewer, if it is there) towards where it is to ROW "
-            + "(at first where it is): by columns first, then by rows.");
+        edges.sentence("Terms", "An HOUR (0 at first): (1) each BOAT rows SPEED cells (fewer, if it is there) towards "
+            + "where it is to ROW (at first where it is): by columns first, then by rows.");
         rows("cx1y1s4", 4, 3, 42, 43, 43);
         rows("cx1y1s1", 2, 3, 21, 22, 23, 23);
         rows("cx9y9s3", 7, 5, 78, 75, 75);
@@ -353,7 +355,8 @@ final class ActEdges {
 
     private void sing() {
         edges.sentence("sing", "It SINGS: LIKING then.");
-        edges.sentence("Terms", "it SINGS to a BUOY no more than 1 AWAY: LIKING of it one more (9 at most; else it can't be)");
+        edges.sentence("Terms", "it SINGS to a BUOY no more than 1 AWAY: LIKING of it one more (9 at most; else it "
+            + "can't be)");
         for (int liking = 0; liking <= 8; liking++) {
             BuoyVote vote = edges.borough("ba" + liking + "e" + liking + "f" + liking + ";c;c;c");
             for (int boat = 0; boat < 3; boat++) {
@@ -477,8 +480,8 @@ final class ActEdges {
     }
 
     private void counting() {
-        edges.sentence("Terms", "(3) If it can be divided by HOURS from one COUNT to the next: the BOAT to which most LEAN has WON a COUNT "
-            + "more");
+        edges.sentence("Terms", "(3) If it can be divided by HOURS from one COUNT to the next: the BOAT to which most "
+            + "LEAN has WON a COUNT more");
         for (int h = 1; h <= 20; h++) {
             BuoyVote vote = edges.borough("sh" + h + ";bo1r0c0;cv5;cv3");
             int won = 0;
@@ -512,8 +515,8 @@ final class ActEdges {
     }
 
     private void voting() {
-        edges.sentence("Terms", "and of each BUOY that LEANS the OLD vote is that one: BARNACLES one more (9 at most), if it was that "
-            + "already, else 1.");
+        edges.sentence("Terms", "and of each BUOY that LEANS the OLD vote is that one: BARNACLES one more (9 at "
+            + "most), if it was that already, else 1.");
         for (int r = 0; r <= 9; r++) {
             edges.all("it was that already, r " + r, voted("o0r" + r + "c0"), 0, Math.min(r + 1, 9));
             // By its BARNACLES it would LEAN to BOAT 1: LIKING 9 and VOICE 9 are more than that.
@@ -664,6 +667,27 @@ final class ActEdges {
             edges.all("done again " + calls[i], all(vote), then);
         }
 
+        // Each LIKING, OLD vote and number of BARNACLES of eight BUOYS comes again by UNDO and by BACK.
+        for (int at = 0; at < 8; at++) {
+            for (int boat = 0; boat < 3; boat++) {
+                vote = edges.borough("sw0h1;ba1e2f3;bx1a1e2f3;bx2a1e2f3;bx3a1e2f3;bx4a1e2f3;bx5a1e2f3;bx6a1e2f3;bx7a1e2f3;"
+                    + "cx" + at + ";cx" + at + ";cx" + at + "v9");
+                vote.image();
+                int liking = boat + 1;
+                edges.all("sing", new long[] {vote.sing(boat, at), vote.scrape(boat, at), vote.hours(1), vote.buoy(at, 6),
+                    vote.buoy(at, 7)}, liking + 1, 1, 1, 2, 1);
+                edges.all("undo()", new long[] {vote.undo(), vote.buoy(at, 6), vote.buoy(at, 7), vote.buoy(at, 3 + boat),
+                    vote.undo(), vote.buoy(at, 7), vote.undo(), vote.buoy(at, 3 + boat)},
+                    2, NONE, 1, liking + 1, 1, 2, 0, liking);
+                vote.sing(boat, at);
+                vote.scrape(boat, at);
+                vote.hours(2);
+                edges.all("back()", new long[] {vote.back(), vote.buoy(at, 3 + boat), vote.buoy(at, 6), vote.buoy(at, 7)},
+                    0, liking, NONE, 2);
+                edges.all("apart", new long[] {vote.ahead(at, 0), vote.ahead(at, 1)}, 2, 2);
+            }
+        }
+
         edges.sentence("undo", "NONE: none.");
         edges.beyond("undo", v -> { }, NONE);
         edges.beyond("undo", Scenes::noBorough, NONE);
@@ -721,8 +745,8 @@ final class ActEdges {
 
     private void runs() {
         edges.sentence("run", "RUN: behind how many (0; NONE: all can be), SANG (1).");
-        edges.sentence("Terms", "RUN of a PLAN: behind how many STEPS the first is that can't be (to ROW where it is to ROW already, "
-            + "0 HOURS can't be); to how many BUOYS together it SANG.");
+        edges.sentence("Terms", "RUN of a PLAN: behind how many STEPS the first is that can't be (to ROW where it is "
+            + "to ROW already, 0 HOURS can't be); to how many BUOYS together it SANG.");
         ran("h1", NONE, 0);
         ran("h0", 0, 0);
         ran("h9;h0", 1, 0);
@@ -826,8 +850,8 @@ final class ActEdges {
 
     private void years() {
         edges.sentence("years", "YEARS: likewise.");
-        edges.sentence("Terms", "x, at first the seed, becomes x times 6364136223846793005 and 1442695040888963407 (64 bits, going round); "
-            + "a draw of m: (x shifted right by 33, without sign) modulo m.");
+        edges.sentence("Terms", "x, at first the seed, becomes x times 6364136223846793005 and 1442695040888963407 "
+            + "(64 bits, going round); a draw of m: (x shifted right by 33, without sign) modulo m.");
         for (long seed : new long[] {0, 1, -1, 2, 77, Long.MAX_VALUE, Long.MIN_VALUE, 1L << 33, -(1L << 33), 0x5DEECE66DL}) {
             drawnBy(seed, 8, 3);
             drawnBy(seed, 1, 2);
@@ -880,8 +904,8 @@ final class ActEdges {
 
     private void image() {
         edges.sentence("image", "An IMAGE (instead of the one ahead): the HOUR.");
-        edges.sentence("Terms", "An IMAGE keeps BOATS, to how many each SANG, LIKINGS, OLD votes, BARNACLES, WIND, who WON, the HOUR, the "
-            + "LOG; BACK: they are so again (no ACT can be UNDONE then).");
+        edges.sentence("Terms", "An IMAGE keeps BOATS, to how many each SANG, LIKINGS, OLD votes, BARNACLES, WIND, "
+            + "who WON, the HOUR, the LOG; BACK: they are so again (no ACT can be UNDONE then).");
         BuoyVote vote = edges.borough("sw0h2;bx1a3r5o1;bx2;c;cx1y1");
         edges.due("image() in HOUR 0", vote.image(), 0);
         long[] first = all(vote);
@@ -956,9 +980,9 @@ final class ActEdges {
     }
 
     private void count() {
-        edges.sentence("count", "0 BUOYS, 1 BOATS, 2 LAWS, 3 PLANS, 4 bytes of the TAPE, 5 the LAW that holds (NONE), 6 the HOUR, "
-            + "7 BUOYS that LEAN (bits), 8 BARNACLES of all, 9 COUNTS that were WON, 10 SEEN, 11 how long the LOG is, "
-            + "12 ACTS that can be UNDONE.");
+        edges.sentence("count", "0 BUOYS, 1 BOATS, 2 LAWS, 3 PLANS, 4 bytes of the TAPE, 5 the LAW that holds (NONE), "
+            + "6 the HOUR, 7 BUOYS that LEAN (bits), 8 BARNACLES of all, 9 COUNTS that were WON, 10 SEEN, 11 how long "
+            + "the LOG is, 12 ACTS that can be UNDONE.");
         BuoyVote vote = Edges.after(v -> Scenes.full(v, ""));
         edges.all("full", new long[] {vote.count(0), vote.count(1), vote.count(2), vote.count(3), vote.count(4), vote.count(5),
             vote.count(6), vote.count(10), vote.count(11), vote.count(12)}, 8, 3, 4, 4, 240, 3, 100, 10, 60, 40);

@@ -10,6 +10,11 @@ final class QuestionEdges {
     /** BOAT 0 has all eight, wherever it is. */
     private static final String EIGHT = "sw0;bc0;bx1c0;bx2c0;bx3c0;bx4c0;bx5c0;bx6c0;bx7c0;";
 
+    /** Of all sorts, for what is worked out in another way. */
+    private static final String[] BOROUGHS = {"sw2d1;bx1y7c1a3;bx4y4e4o1;bx8y2c2r5;bx9y9o0;bx3y1c4;bx6y6e2;cx5y5s3v5;cx2y8s1v6",
+        "sw4d2t1;bx3y3c0o2r7;bx6y3f2;bx3y6a2c1;bx6y6e3;bx5y8;cx3y4v6s2;cx6y6v7s4;cx5y2v5",
+        "sw1d3;bx9c0;bx8y1a1;bx7y2e1;bx6y3c1;bx5y4a4;bx4y5e4o0r4;cx9y9v8s4;cv7s2;cx4y5v4"};
+
     private final Edges edges;
 
     QuestionEdges(Edges edges) {
@@ -105,7 +110,8 @@ final class QuestionEdges {
 
     private void soon() {
         edges.sentence("soon", "SOON.");
-        edges.sentence("Terms", "SOON: how many HOURS a BOAT needs at least to a BUOY's place (AWAY by SPEED, rounded up).");
+        edges.sentence("Terms", "SOON: how many HOURS a BOAT needs at least to a BUOY's place (AWAY by SPEED, rounded "
+            + "up).");
         for (int speed = 1; speed <= 4; speed++) {
             for (int away = 0; away <= 18; away++) {
                 int x = Math.min(away, 9);
@@ -131,8 +137,9 @@ final class QuestionEdges {
 
     private void round() {
         edges.sentence("round", "ROUND: the order (0; 0 of none), HOURS (1).");
-        edges.sentence("Terms", "ROUND of a BOAT for a set of BUOYS (bits): the order (digits; of several the least) in which it has been at "
-            + "each place soonest (HOURS of all legs, from each place to the next: AWAY by SPEED, rounded up, together least); HOURS.");
+        edges.sentence("Terms", "ROUND of a BOAT for a set of BUOYS (bits): the order (digits; of several the least) "
+            + "in which it has been at each place soonest (HOURS of all legs, from each place to the next: AWAY by "
+            + "SPEED, rounded up, together least); HOURS.");
         BuoyVote vote = edges.borough("bx0;bx8;bx4;cx4s4;cx9s1");
         rounds(vote, 0, 0, 0, 0);
         rounds(vote, 0, 1, 0, 1);
@@ -158,12 +165,38 @@ final class QuestionEdges {
         rounds(vote, 1, 255, 1234567, 9);
         rounds(vote, 1, 128, 7, 9);
 
+        for (String borough : BOROUGHS) {
+            vote = edges.borough(borough);
+            for (int set = 0; set < 1 << vote.count(0); set += set % 8 == 7 ? 9 : 1) {
+                for (int boat = 0; boat < 2; boat++) {
+                    long least = leastRound(vote, boat, vote.boat(boat, 0), vote.boat(boat, 1), set, 0, 0);
+                    rounds(edges.borough(borough), boat, set, (int) (least % 100000000), (int) (least / 100000000));
+                }
+            }
+        }
+
         edges.sentence("round", "NONE: no such ones (bits of BUOYS).");
         edges.bounds("round", Scenes::rich, NONE, new int[] {0, 1, 0}, BOATS, new int[] {0, 7}, EITHER);
         edges.bounds("round", v -> Scenes.full(v, ""), NONE, new int[] {0, 1, 1}, BOATS, new int[] {0, 255}, EITHER);
         edges.bounds("round", v -> Scenes.tell(v, 0, "b;c;c"), NONE, new int[] {0, 0, 0}, EITHER, new int[] {0, 1}, EITHER);
         edges.beyond("round", Scenes::noBorough, NONE, 0, 0, 0);
         edges.beyond("round", Scenes::noBorough, NONE, 0, 0, 1);
+    }
+
+    /** HOURS times 10 to the 8 and the order, the least of all orders. */
+    private static long leastRound(BuoyVote vote, int boat, int x, int y, int left, long hours, long order) {
+        long least = left == 0 ? hours * 100000000 + order : Long.MAX_VALUE;
+        for (int next = 0; next < 8; next++) {
+            if ((left >> next & 1) != 0) {
+                int toX = vote.buoy(next, 0);
+                int toY = vote.buoy(next, 1);
+                int away = Math.abs(toX - x) + Math.abs(toY - y);
+                int speed = vote.boat(boat, 2);
+                least = Math.min(least, leastRound(vote, boat, toX, toY, left & ~(1 << next),
+                    hours + away / speed + (away % speed == 0 ? 0 : 1), order * 10 + next));
+            }
+        }
+        return least;
     }
 
     private void rounds(BuoyVote vote, int boat, int set, int order, int hours) {
@@ -173,8 +206,8 @@ final class QuestionEdges {
 
     private void best() {
         edges.sentence("best", "BEST PLACE: the place (0), how many (1).");
-        edges.sentence("Terms", "BEST PLACE of a BOAT: 10 times y and x, where most BUOYS would LEAN to it in this HOUR, all others where "
-            + "they are (of several the least); how many.");
+        edges.sentence("Terms", "BEST PLACE of a BOAT: 10 times y and x, where most BUOYS would LEAN to it in this "
+            + "HOUR, all others where they are (of several the least); how many.");
         for (int x = 0; x <= 9; x++) {
             for (int y = 0; y <= 9; y++) {
                 BuoyVote vote = edges.borough("bx" + x + "y" + y + "c9;cv9;c");
@@ -195,6 +228,14 @@ final class QuestionEdges {
         edges.all("not in this HOUR", new long[] {vote.best(0, 0), vote.best(0, 1)}, 0, 0);
         vote.hours(1);
         edges.all("in this HOUR", new long[] {vote.best(0, 0), vote.best(0, 1)}, 0, 1);
+        // No place is more than 18 AWAY from a corner: none beyond the cells is looked at.
+        for (String corner : new String[] {"b", "bx9", "by9", "bx9y9"}) {
+            vote = edges.borough(corner + ";cx5y5v9;cx5y5");
+            edges.rule(vote, "y:v=9&d>18?9;y:0");
+            edges.all("beyond the cells", new long[] {vote.best(0, 0), vote.best(0, 1)}, 0, 0);
+            edges.rule(vote, "y:v=9&d=18?9;y:0");
+            edges.due("in the other corner", vote.best(0, 0), 99 - 10 * vote.buoy(0, 1) - vote.buoy(0, 0));
+        }
 
         edges.sentence("best", "NONE: no such ones.");
         edges.bounds("best", Scenes::rich, NONE, new int[] {0, 0}, BOATS, EITHER);
@@ -205,7 +246,8 @@ final class QuestionEdges {
 
     private void game() {
         edges.sentence("game", "GAME: how many LEAN to the first (0), the second (1).");
-        edges.sentence("Terms", "GAME of two BOATS: they are at the places of BUOYS x, y in this HOUR: how many LEAN to a BOAT.");
+        edges.sentence("Terms", "GAME of two BOATS: they are at the places of BUOYS x, y in this HOUR: how many LEAN "
+            + "to a BOAT.");
         BuoyVote vote = edges.borough("sw0;bc0;bx9c0;bx9y9c0;cx5y5v9;cx4y4v9;cx9y9v0");
         edges.rule(vote, "y:v-d");
         edges.all("0 and 1 at BUOYS 0 and 2", new long[] {vote.game(0, 1, 0, 2, 0), vote.game(0, 1, 0, 2, 1),
@@ -230,7 +272,8 @@ final class QuestionEdges {
 
     private void rests() {
         edges.sentence("rests", "RESTS: how many (i NONE), the i-th.");
-        edges.sentence("Terms", "RESTS: 10 times x and y by which neither has more at another BUOY: how many, the i-th (rising).");
+        edges.sentence("Terms", "RESTS: 10 times x and y by which neither has more at another BUOY: how many, the "
+            + "i-th (rising).");
         BuoyVote vote = edges.borough("b;c;c");
         edges.all("one BUOY", new long[] {vote.rests(0, 1, NONE), vote.rests(0, 1, 0), vote.rests(0, 1, 1)}, 1, 0, NONE);
         vote = edges.borough(EIGHT + "cv9;cv0");
@@ -251,6 +294,16 @@ final class QuestionEdges {
         edges.due("no place", vote.rests(0, 1, NONE), 0);
         edges.due("none is the first", vote.rests(0, 1, 0), NONE);
 
+        for (String borough : BOROUGHS) {
+            for (int pair = 0; pair < 6; pair++) {
+                int one = pair / 2;
+                int other = pair % 2 == 0 ? (one + 1) % 3 : (one + 2) % 3;
+                if (Edges.after(v -> Scenes.tell(v, 0, borough)).game(one, other, 0, 0, 0) != NONE) {
+                    restsAndHolds(borough, one, other);
+                }
+            }
+        }
+
         edges.sentence("rests", "NONE: no such one, as for GAME.");
         edges.bounds("rests", v -> Scenes.tell(v, 0, EIGHT + "cv9;cv0;cv0"), NONE, new int[] {1, 0, NONE}, new int[] {1, 2},
             new int[] {0, 0}, new int[] {NONE, 63});
@@ -266,10 +319,48 @@ final class QuestionEdges {
         edges.beyond("rests", Scenes::noBorough, NONE, 0, 1, 0);
     }
 
+    /** Against all GAMES of the two, each asked by itself. */
+    private void restsAndHolds(String borough, int one, int other) {
+        BuoyVote games = edges.borough(borough);
+        int buoys = games.count(0);
+        int[][][] lean = new int[buoys][buoys][2];
+        for (int x = 0; x < buoys; x++) {
+            for (int y = 0; y < buoys; y++) {
+                lean[x][y][0] = games.game(one, other, x, y, 0);
+                lean[x][y][1] = games.game(one, other, x, y, 1);
+            }
+        }
+        BuoyVote vote = edges.borough(borough);
+        int found = 0;
+        int place = 0;
+        int most = -9;
+        for (int x = 0; x < buoys; x++) {
+            int worst = 9;
+            for (int y = 0; y < buoys; y++) {
+                boolean rests = true;
+                for (int z = 0; z < buoys; z++) {
+                    rests &= lean[z][y][0] <= lean[x][y][0] && lean[x][z][1] <= lean[x][y][1];
+                }
+                if (rests) {
+                    edges.due("rests(" + one + ", " + other + ", " + found + ")", vote.rests(one, other, found), 10 * x + y);
+                    found++;
+                }
+                worst = Math.min(worst, lean[x][y][0] - lean[x][y][1]);
+            }
+            if (worst > most) {
+                most = worst;
+                place = x;
+            }
+        }
+        edges.due("rests(" + one + ", " + other + ", NONE)", vote.rests(one, other, NONE), found);
+        edges.all("holds(" + one + ", " + other + ")", new long[] {edges.borough(borough).holds(one, other, 0),
+            edges.borough(borough).holds(one, other, 1)}, place, most);
+    }
+
     private void holds() {
         edges.sentence("holds", "HOLDS: the BUOY (0), that (1).");
-        edges.sentence("Terms", "HOLDS of a BOAT against another: the BUOY at which it has, by the worst place of the other at a BUOY for it, "
-            + "the most LEAN to it less those to the other (of several the lowest); that.");
+        edges.sentence("Terms", "HOLDS of a BOAT against another: the BUOY at which it has, by the worst place of the "
+            + "other at a BUOY for it, the most LEAN to it less those to the other (of several the lowest); that.");
         BuoyVote vote = edges.borough(EIGHT + "cv9;cv0");
         edges.rule(vote, "y:v");
         edges.all("all against none", new long[] {vote.holds(0, 1, 0), vote.holds(0, 1, 1), vote.holds(1, 0, 0),
@@ -283,6 +374,14 @@ final class QuestionEdges {
         edges.all("the lowest of others", new long[] {vote.holds(0, 1, 0), vote.holds(0, 1, 1)}, 1, 0);
         vote = edges.borough("b;c;c");
         edges.all("one BUOY", new long[] {vote.holds(0, 1, 0), vote.holds(0, 1, 1)}, 0, 0);
+        // The louder in the middle has two against one, all three against the other in the middle.
+        vote = edges.borough("bc0;bx2c0;bx4c0;cv8;cv9");
+        edges.rule(vote, "y:v-d");
+        edges.all("two against one", new long[] {vote.holds(1, 0, 0), vote.holds(1, 0, 1)}, 1, 1);
+        // BOAT 2 stays where it is and keeps the BUOY there.
+        vote = edges.borough("sw0;b;bx9y9;cx5;cx5;cv9");
+        edges.all("with a third", new long[] {vote.holds(0, 1, 0), vote.holds(0, 1, 1), vote.rests(0, 1, NONE),
+            vote.rests(0, 1, 0), vote.rests(0, 1, 1), vote.rests(0, 1, 2)}, 1, 0, 3, 1, 10, 11);
 
         edges.sentence("holds", "HIDDEN: no such ones, one alone.");
         edges.bounds("holds", Scenes::rich, HIDDEN, new int[] {1, 0, 0}, new int[] {1, 2}, new int[] {0, 0}, EITHER);
@@ -299,9 +398,9 @@ final class QuestionEdges {
 
     private void seen() {
         edges.sentence("seen", "SEEN: how many there are.");
-        edges.sentence("Terms", "SEEN (10 at most): a BUOY, as told, LEANED to BOAT 0, to 1, or stayed upright (2), as these two were d, e "
-            + "(0 .. 18) AWAY, with CHAIN as told, VOICE as told, without PUSH, BARNACLES and other BOATS (DRAW by the LAW that holds, "
-            + "in HOUR 0).");
+        edges.sentence("Terms", "SEEN (10 at most): a BUOY, as told, LEANED to BOAT 0, to 1, or stayed upright (2), "
+            + "as these two were d, e (0 .. 18) AWAY, with CHAIN as told, VOICE as told, without PUSH, BARNACLES and "
+            + "other BOATS (DRAW by the LAW that holds, in HOUR 0).");
         BuoyVote vote = edges.borough("b;bx1;c;c");
         for (int i = 1; i <= 10; i++) {
             edges.due("seen", vote.seen(i % 2, i % 2 * 18, 18 - i % 2 * 18, i % 3), i);
@@ -315,6 +414,13 @@ final class QuestionEdges {
         edges.all("without all else", new long[] {vote.likes(0, NONE), vote.likes(0, 0), vote.likes(0, 9)}, 10, 90, 99);
         edges.rule(vote, "y:h*9+p*9+r*9");
         edges.due("nothing but 0 by these", vote.likes(0, NONE), 0);
+        for (int to = 0; to < 3; to++) {
+            BuoyVote other = edges.borough("sw9;bx5a4e4o1r9c3;cx9;cx9y9;cx5v9");
+            other.hours(9);
+            edges.rule(other, "y:h*9+p*9+r*9");
+            other.seen(0, 9, 18, to);
+            edges.due("HOUR 0, no PUSH, no BARNACLES: upright", other.likes(0, NONE), to == 2 ? 100 : 0);
+        }
         vote.law(NONE);
         edges.due("by the LAW that holds", vote.likes(0, NONE), 10);
 
@@ -329,8 +435,8 @@ final class QuestionEdges {
 
     private void likes() {
         edges.sentence("likes", "LIKES: how many (i NONE), the i-th.");
-        edges.sentence("Terms", "LIKES of a BUOY: 10 times LIKING of 0 and that of 1 (0 .. 9) by which all SEEN of it is so: how many, the "
-            + "i-th (rising).");
+        edges.sentence("Terms", "LIKES of a BUOY: 10 times LIKING of 0 and that of 1 (0 .. 9) by which all SEEN of it "
+            + "is so: how many, the i-th (rising).");
         BuoyVote vote = edges.borough("b;bx1;c;c");
         edges.due("nothing SEEN", vote.likes(0, NONE), 100);
         for (int i = 0; i < 100; i++) {
@@ -381,8 +487,8 @@ final class QuestionEdges {
 
     private void ask() {
         edges.sentence("ask", "LOOK.");
-        edges.sentence("Terms", "LOOK at a BUOY: the d (0 .. 9), with e 3, by which the answer that most of these would give is given by the "
-            + "fewest (of several the least).");
+        edges.sentence("Terms", "LOOK at a BUOY: the d (0 .. 9), with e 3, by which the answer that most of these "
+            + "would give is given by the fewest (of several the least).");
         // BOAT 1 (VOICE 4) has 5; at that d alone BOAT 0 has 9 or 0, half and half, else 0.
         for (int d = 0; d <= 9; d++) {
             BuoyVote vote = edges.borough("bc0;cv5;cv4");
@@ -399,6 +505,13 @@ final class QuestionEdges {
         // With another e than 3 BOAT 1 has 9, whatever BOAT 0 has.
         edges.rule(vote, "y:v=4&!d=3?9;y:v=5&d=7&l>4?8;y:v=4?5;y:0");
         edges.due("with e 3", vote.ask(0), 7);
+        for (int chain = 0; chain <= 9; chain++) {
+            for (int voice = 0; voice <= 9; voice++) {
+                for (int to = 0; to < 3; to++) {
+                    looks(chain, voice, to);
+                }
+            }
+        }
         vote = seenBy(18, 9, 1);
         vote.seen(0, 9, 18, 0);
         edges.all("one pair fits", new long[] {vote.likes(0, NONE), vote.ask(0)}, 1, 0);
@@ -412,10 +525,37 @@ final class QuestionEdges {
         edges.beyond("ask", Scenes::noBorough, NONE, 0);
     }
 
+    /** LOOK by all pairs of LIKINGS one by one, SEEN with 2 and 4 AWAY; VOICE 5 of BOAT 1. */
+    private void looks(int chain, int voice, int to) {
+        BuoyVote vote = edges.borough("bc" + chain + ";cv" + voice + ";cv5");
+        vote.seen(0, 2, 4, to);
+        int best = NONE;
+        int fewest = 101;
+        for (int d = 0; d <= 9; d++) {
+            int[] given = new int[3];
+            for (int pair = 0; pair < 100; pair++) {
+                if (told(chain, voice + pair / 10 - 2, 5 + pair % 10 - 4) == to) {
+                    given[told(chain, voice + pair / 10 - d, 5 + pair % 10 - 3)]++;
+                }
+            }
+            int most = Math.max(given[0], Math.max(given[1], given[2]));
+            if (most > 0 && most < fewest) {
+                fewest = most;
+                best = d;
+            }
+        }
+        edges.due("ask, CHAIN " + chain + ", VOICE " + voice + ", SEEN " + to, vote.ask(0), best);
+    }
+
+    private static int told(int chain, int one, int other) {
+        return one > other && one >= chain ? 0 : other > one && other >= chain ? 1 : 2;
+    }
+
     private void blown() {
         edges.sentence("blown", "WIND OR LIKING.");
-        edges.sentence("Terms", "WIND OR LIKING for n, k (0 .. 18, k no more than n): k times of n a BUOY LEANED as the WIND blew: of 10 to the "
-            + "6 parts that it was by WIND: by WIND it does so in 8 of ten, by LIKING in 5 of ten, both alike likely (cut).");
+        edges.sentence("Terms", "WIND OR LIKING for n, k (0 .. 18, k no more than n): k times of n a BUOY LEANED as "
+            + "the WIND blew: of 10 to the 6 parts that it was by WIND: by WIND it does so in 8 of ten, by LIKING in 5 "
+            + "of ten, both alike likely (cut).");
         BuoyVote vote = new BuoyVote();
         for (int n = 0; n <= 18; n++) {
             for (int k = 0; k <= n; k++) {
@@ -441,8 +581,8 @@ final class QuestionEdges {
 
     private void washed() {
         edges.sentence("washed", "WASHED: how many (i NONE), the i-th.");
-        edges.sentence("Terms", "WASHED for a, b (0 .. 8): sets of up to two BUOYS (bits) that a liner's wash took over from the one to the "
-            + "other of BOATS 0, 1 so that a LEAN to 0 and b to 1 now");
+        edges.sentence("Terms", "WASHED for a, b (0 .. 8): sets of up to two BUOYS (bits) that a liner's wash took "
+            + "over from the one to the other of BOATS 0, 1 so that a LEAN to 0 and b to 1 now");
         BuoyVote vote = edges.borough(EIGHT + "cx4v9;cx9y9v0");
         edges.all("nothing washed", washed(vote, 8, 0), 0);
         edges.all("one", washed(vote, 7, 1), 1, 2, 4, 8, 16, 32, 64, 128);
@@ -451,8 +591,8 @@ final class QuestionEdges {
         edges.all("three", washed(vote, 5, 3));
         edges.all("not all are told", washed(vote, 7, 0));
         edges.all("too many", washed(vote, 8, 8));
-        edges.sentence("Terms", "as they LEAN now but those of the set that LEAN to 0 then to 1, and the other way (only such can be in it): how "
-            + "many, the i-th (rising)");
+        edges.sentence("Terms", "as they LEAN now but those of the set that LEAN to 0 then to 1, and the other way "
+            + "(only such can be in it): how many, the i-th (rising)");
         // To 0 LEANS BUOY 0, to 1 BUOYS 1 and 2, to 2 BUOY 3, BUOY 4 is upright.
         vote = edges.borough("sw0;bx0a9;bx9e9;bx8e9;by9f9;bx9y9c9;c;cx9;cy9");
         edges.all("as they LEAN, or one each way", washed(vote, 1, 2), 0, 3, 5);
@@ -484,8 +624,8 @@ final class QuestionEdges {
 
     private void watch() {
         edges.sentence("watch", "WATCH, as bits.");
-        edges.sentence("Terms", "WATCH for r (0 .. 18): the fewest BUOYS (bits; of several the least) by which each BUOY is no more than r AWAY "
-            + "from one of them.");
+        edges.sentence("Terms", "WATCH for r (0 .. 18): the fewest BUOYS (bits; of several the least) by which each "
+            + "BUOY is no more than r AWAY from one of them.");
         BuoyVote vote = edges.borough("b;bx9y9;c;c");
         for (int r = 0; r <= 18; r++) {
             edges.due("two 18 AWAY, watch(" + r + ")", vote.watch(r), r < 18 ? 3 : 1);
@@ -496,6 +636,8 @@ final class QuestionEdges {
             vote.watch(6), vote.watch(7), vote.watch(18)}, 255, 1 + 8 + 64, 1 + 32, 1 + 16, 8, 2, 1, 1);
         vote = edges.borough("bx5y5;c;c");
         edges.all("one", new long[] {vote.watch(0), vote.watch(18)}, 1, 1);
+        vote = edges.borough("bx8y9;bx9y9;c;c");
+        edges.all("far from all else", new long[] {vote.watch(0), vote.watch(1)}, 3, 1);
 
         edges.sentence("watch", "NONE: no BOROUGH, out of bounds.");
         edges.bounds("watch", Scenes::rich, NONE, new int[] {0}, new int[] {0, 18});
@@ -505,8 +647,8 @@ final class QuestionEdges {
 
     private void fair() {
         edges.sentence("fair", "FAIR: HOURS (0), how far apart (1).");
-        edges.sentence("Terms", "FAIR for n (1 .. 60): behind how many HOURS (0 .. n) those who LEAN to BOAT 0 and 1 are least apart in number "
-            + "(of several the soonest); how far apart.");
+        edges.sentence("Terms", "FAIR for n (1 .. 60): behind how many HOURS (0 .. n) those who LEAN to BOAT 0 and 1 "
+            + "are least apart in number (of several the soonest); how far apart.");
         BuoyVote vote = edges.borough("b;cv5;cv4");
         edges.rule(vote, "y:v=5&h<60?9;y:0");
         edges.all("at the very end", new long[] {vote.fair(1, 0), vote.fair(1, 1), vote.fair(59, 0), vote.fair(59, 1),
@@ -558,7 +700,8 @@ final class QuestionEdges {
 
     private void sways() {
         edges.sentence("sways", "SWAYS (0), EDGE (1).");
-        edges.sentence("Terms", "SWAYS of a BUOY: how much less than its CHAIN the greatest DRAW is (below 0: it LEANS or two are alike).");
+        edges.sentence("Terms", "SWAYS of a BUOY: how much less than its CHAIN the greatest DRAW is (below 0: it "
+            + "LEANS or two are alike).");
         for (int chain = 0; chain <= 9; chain++) {
             for (int voice = 0; voice <= 9; voice++) {
                 BuoyVote vote = edges.borough("bc" + chain + ";cv0;cv" + voice + ";cv0");
@@ -604,7 +747,8 @@ final class QuestionEdges {
 
     private void fog() {
         edges.sentence("fog", "FOG.");
-        edges.sentence("Terms", "FOG for a BOAT, a chance (0 .. 100): of 10 to the 9 parts those by which more LEAN to it than to each other");
+        edges.sentence("Terms", "FOG for a BOAT, a chance (0 .. 100): of 10 to the 9 parts those by which more LEAN "
+            + "to it than to each other");
         BuoyVote vote = edges.borough("bc0;cv9;cv0");
         for (int chance = 0; chance <= 100; chance++) {
             edges.all("one LEANS", new long[] {vote.fog(0, chance), vote.fog(1, chance)}, 10000000L * (100 - chance), 0);
@@ -616,8 +760,8 @@ final class QuestionEdges {
             0, 125000000, 125000000, 0);
         vote = edges.borough("sw0;bx0a9;bx1a9;by9e9;bx9f9;c;cy9;cx9");
         edges.all("two to BOAT 0", new long[] {vote.fog(0, 0), vote.fog(1, 0), vote.fog(2, 0)}, 1000000000, 0, 0);
-        edges.sentence("Terms", "if each BUOY that LEANS is not seen by chance, one behind the other by numbers, each way by itself (100ths of its "
-            + "part, cut, not seen: upright; the rest seen)");
+        edges.sentence("Terms", "if each BUOY that LEANS is not seen by chance, one behind the other by numbers, each "
+            + "way by itself (100ths of its part, cut, not seen: upright; the rest seen)");
         // BUOY 0 is seen, then BUOY 1 is not, by 100ths of what is left.
         vote = edges.borough("sw0;bx0a9;bx9e9;c;cx9");
         edges.all("33 in a hundred", new long[] {vote.fog(0, 33), vote.fog(1, 33)}, 221100000, 330000000 - 108900000);
@@ -648,7 +792,8 @@ final class QuestionEdges {
 
     private void needs() {
         edges.sentence("needs", "NEED.");
-        edges.sentence("Terms", "NEED of a BOAT at a BUOY: the least LIKING (0 .. 9) by which it would LEAN to it now (none: it can't be).");
+        edges.sentence("Terms", "NEED of a BOAT at a BUOY: the least LIKING (0 .. 9) by which it would LEAN to it now "
+            + "(none: it can't be).");
         for (int chain = 0; chain <= 9; chain++) {
             for (int voice = 0; voice <= 9; voice++) {
                 BuoyVote vote = edges.borough("bc" + chain + "a9e9;cv0;cv" + voice);
@@ -694,7 +839,8 @@ final class QuestionEdges {
 
     private void middle() {
         edges.sentence("middle", "MIDDLE.");
-        edges.sentence("Terms", "MIDDLE: 10 times y and x of the place with the least AWAY of all BUOYS together (of several the least).");
+        edges.sentence("Terms", "MIDDLE: 10 times y and x of the place with the least AWAY of all BUOYS together (of "
+            + "several the least).");
         for (int x = 0; x <= 9; x++) {
             for (int y = 0; y <= 9; y++) {
                 edges.due("of one", edges.borough("bx" + x + "y" + y + ";c;c").middle(), 10 * y + x);

@@ -65,8 +65,8 @@ final class TextEdges {
     }
 
     private void feed() {
-        edges.sentence("feed",
-            "Twenty bytes more come to the TAPE (of each number the highest first; bytes of 0 are left out): how many it has.");
+        edges.sentence("feed", "Twenty bytes more come to the TAPE (of each number the highest first; bytes of 0 are "
+            + "left out): how many it has.");
         BuoyVote vote = new BuoyVote();
         edges.due("the highest first", vote.feed(0x623B633B, 0x63783176, 0x323B6279, 0x3963363B, 0x73773968), 20);
         edges.due("two bytes more", vote.feed(0x32300000, 0, 0, 0, 0), 22);
@@ -104,6 +104,15 @@ final class TextEdges {
             }
         }
         edges.refused("feed of a byte when full", v -> Scenes.full(v, "b;c;c"), v -> v.feed(0, 0, 0, 0, 7), NONE);
+        for (int value = 1; value < 256; value++) {
+            int word = value;
+            for (int shift = 0; shift < 32; shift += 8) {
+                int moved = word << shift;
+                BuoyVote vote = Edges.after(v -> Checks.more(v, " ".repeat(239)));
+                edges.due("feed of byte " + value, vote.feed(0, moved, 0, 0, 0), 240);
+                edges.due("feed of byte " + value + " more", vote.feed(0, 0, moved, 0, 0), NONE);
+            }
+        }
     }
 
     private static int[] words(int bytes) {
@@ -148,6 +157,13 @@ final class TextEdges {
             }
         }
 
+        justThat("sw9d3t12h20;bx9y9c9a9e9o1r9;bx8;bx7;cx9y9s4v9;c;c");
+        justThat("sw9d3t12h20;bx9y9c9a9e9o1r9;bx8;bx7;cx9y9s4v9;c;c;q");
+        justThat("y:5;y:6");
+        justThat("y:v=0?5;y:4;q");
+        justThat("g999;s88;c77;h6");
+        justThat("g999;s88;c77;q");
+
         edges.sentence("fault", "NONE: none.");
         String[] right = {"b;c;c", "y:0", "h0"};
         for (int sort = 0; sort < 3; sort++) {
@@ -163,9 +179,35 @@ final class TextEdges {
         edges.due("fault(3) of an empty TAPE", new BuoyVote().fault(3), -2);
     }
 
+    /** A text that was only tried, as whatever sort, leaves nothing in those that are told behind it. */
+    private void justThat(String tried) {
+        BuoyVote vote = new BuoyVote();
+        Checks.tape(vote, tried);
+        for (int sort = 0; sort < 3; sort++) {
+            vote.fault(sort);
+        }
+        Checks.tape(vote, "b;c;c");
+        edges.due("text(0) behind " + tried, vote.text(0), 1);
+        edges.all("just that BOROUGH", new long[] {vote.rule(0), vote.rule(1), vote.rule(2), vote.rule(3), vote.count(0),
+            vote.count(1), vote.buoy(0, 0), vote.buoy(0, 2), vote.buoy(0, 3), vote.buoy(0, 6), vote.buoy(0, 7), vote.boat(0, 0),
+            vote.boat(0, 2), vote.boat(0, 3)}, 2, 0, 6, 8, 1, 2, 0, 3, 0, NONE, 2, 0, 2, 3);
+        Checks.tape(vote, tried);
+        vote.fault(1);
+        Checks.tape(vote, "y:v=3?7");
+        edges.due("text(1) behind " + tried, vote.text(1), 0);
+        vote.law(0);
+        edges.due("just that LAW", vote.pull(0, 0), 7);
+        Checks.tape(vote, tried);
+        vote.fault(2);
+        Checks.tape(vote, "h3");
+        edges.due("text(2) behind " + tried, vote.text(2), 0);
+        edges.all("just that PLAN", new long[] {vote.step(0, 0, 0), vote.step(0, 0, 1), vote.step(0, 0, 2), vote.step(0, 0, 3),
+            vote.step(0, 1, 0)}, 3, 3, NONE, NONE, HIDDEN);
+    }
+
     private void text() {
-        edges.sentence("text", "The TAPE (empty then) is the BOROUGH (HOUR 0; all that was of another one, SEEN, too, is gone "
-            + "but LAWS, which holds, PLANS): how many BUOYS; a LAW, a PLAN: its number.");
+        edges.sentence("text", "The TAPE (empty then) is the BOROUGH (HOUR 0; all that was of another one, SEEN, too, "
+            + "is gone but LAWS, which holds, PLANS): how many BUOYS; a LAW, a PLAN: its number.");
         BuoyVote vote = Edges.after(Scenes::rich);
         Checks.tape(vote, "b;bx1;c;cx7y7s4v9");
         edges.due("text(0)", vote.text(0), 2);
@@ -248,8 +290,8 @@ final class TextEdges {
     }
 
     private void step() {
-        edges.sentence("step",
-            "A STEP of a PLAN: 0 what (0 g, 1 s, 2 c, 3 h), 1 the first digit, 2 the second one (NONE), 3 the third one (NONE).");
+        edges.sentence("step", "A STEP of a PLAN: 0 what (0 g, 1 s, 2 c, 3 h), 1 the first digit, 2 the second one "
+            + "(NONE), 3 the third one (NONE).");
         BuoyVote vote = new BuoyVote();
         int plan = edges.plan(vote, "g987;s90;c09;h9;g000;s00;c00;h0");
         long[][] want = {{0, 9, 8, 7}, {1, 9, 0, NONE}, {2, 0, 9, NONE}, {3, 9, NONE, NONE},
@@ -489,8 +531,8 @@ final class TextEdges {
     }
 
     private void conditions() {
-        edges.sentence("Terms", "CONDITION: TRUTHS with | between; TRUTH: UNITS with & between; UNIT: ! UNIT, ( CONDITION ), or "
-            + "SUM, one of = < >, SUM.");
+        edges.sentence("Terms", "CONDITION: TRUTHS with | between; TRUTH: UNITS with & between; UNIT: ! UNIT, ( "
+            + "CONDITION ), or SUM, one of = < >, SUM.");
         edges.next(1, "y:v=", ATOMS);
         edges.next(1, "y:v<", ATOMS);
         edges.next(1, "y:v>", ATOMS);
@@ -665,7 +707,8 @@ final class TextEdges {
     }
 
     private void worths() {
-        edges.sentence("Terms", "WORTH of a LAW: the SUM of the first CLAUSE whose CONDITION holds (or has none), 0 without.");
+        edges.sentence("Terms", "WORTH of a LAW: the SUM of the first CLAUSE whose CONDITION holds (or has none), 0 "
+            + "without.");
         draws("y:v=7?5", 5, 0);
         draws("y:v=1?5;y:v=2?6", 0, 0);
         draws("y:v=1?5;y:6", 6, 6);
@@ -691,8 +734,8 @@ final class TextEdges {
             edges.due("no STEP behind " + steps, vote.step(0, steps, 0), HIDDEN);
         }
         edges.fault(2, SIXTEEN + ";h1", 47);
-        edges.sentence("Terms", "g and three digits (BOAT, x, y: it is to ROW there), s and two digits (BOAT, BUOY: it SINGS to it), "
-            + "c and two digits (BOAT, BUOY: it SCRAPES it), h and a digit (HOURS)");
+        edges.sentence("Terms", "g and three digits (BOAT, x, y: it is to ROW there), s and two digits (BOAT, BUOY: "
+            + "it SINGS to it), c and two digits (BOAT, BUOY: it SCRAPES it), h and a digit (HOURS)");
         String[] kinds = {"g", "s", "c", "h"};
         int[] digits = {3, 2, 2, 1};
         for (int kind = 0; kind < 4; kind++) {
@@ -712,8 +755,8 @@ final class TextEdges {
     }
 
     private void blanks() {
-        edges.sentence("Terms", "Blanks (32) may stand between all signs of these, not within numbers (between digits of a STEP they "
-            + "may).");
+        edges.sentence("Terms", "Blanks (32) may stand between all signs of these, not within numbers (between digits "
+            + "of a STEP they may).");
         String[] texts = {"st12d1h20;bx9y09c3;cv03;c", "y:!(v>1234)&[l]<12|r=0?[d+99]*2;y:0012/p-h", "g012;s01;c12;h5;g999"};
         for (int sort = 0; sort < 3; sort++) {
             String text = texts[sort];
@@ -743,8 +786,8 @@ final class TextEdges {
     }
 
     private void faultAtTheEnd() {
-        edges.sentence("Terms", "(the length, if it ends too early, without a BUOY, with fewer than two BOATS, or two BUOYS in one "
-            + "place)");
+        edges.sentence("Terms", "(the length, if it ends too early, without a BUOY, with fewer than two BOATS, or two "
+            + "BUOYS in one place)");
         String[] texts = {"st12d1h20;bx9y09c3;cv03;c", "y:!(v>1234)&[l]<12|r=0?[d+99]*2;y:0012/p-h", "g012;s01;c12;h5;g999"};
         for (int sort = 0; sort < 3; sort++) {
             for (int n = 0; n <= texts[sort].length(); n++) {
@@ -851,7 +894,8 @@ final class TextEdges {
         BuoyVote vote = edges.borough("b;bx1;bx2;c;c;c");
         edges.due("with a third of each", vote.run(edges.plan(vote, "g211;s20;c02"), 0), 2);
 
-        edges.sentence("Terms", "An OLD vote for a BOAT that is not told is none; a LIKING of such a one counts for nothing.)");
+        edges.sentence("Terms", "An OLD vote for a BOAT that is not told is none; a LIKING of such a one counts for "
+            + "nothing.)");
         vote = edges.borough("bo2r9f9;c;c");
         edges.all("two BOATS", new long[] {vote.buoy(0, 6), vote.buoy(0, 7), vote.buoy(0, 8), vote.pull(0, 0), vote.pull(0, 1),
             vote.pull(0, 2), vote.sways(0, 1), vote.buoys(1), vote.count(7), vote.votes(2)},
