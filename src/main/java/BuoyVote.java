@@ -18,6 +18,8 @@ public final class BuoyVote {
     private static final int LAST_HOUR = 9999;
     private static final int MOST_LOGGED = 60;
     private static final int NO_SORT = -2;
+    /** More than any DRAW, AWAY, HOURS and number of pairs that a search begins with. */
+    private static final int BEYOND_ALL = 1000000;
     private static final long ALL_PARTS = 1000000000L;
     private static final long DRAW_FACTOR = 6364136223846793005L;
     private static final long DRAW_ADDEND = 1442695040888963407L;
@@ -541,7 +543,7 @@ public final class BuoyVote {
             return HIDDEN;
         }
         int greatest = waters.drawOf(now, buoy, 0);
-        int next = Integer.MIN_VALUE;
+        int next = -BEYOND_ALL;
         for (int boat = 1; boat < told.boats; boat++) {
             int draw = waters.drawOf(now, buoy, boat);
             next = Math.max(next, Math.min(greatest, draw));
@@ -555,7 +557,7 @@ public final class BuoyVote {
             return NONE;
         }
         int found = 0;
-        int least = Integer.MAX_VALUE;
+        int least = BEYOND_ALL;
         for (int buoy = 0; buoy < told.buoys; buoy++) {
             int away = now.awayOf(boat, told.buoyX(buoy), told.buoyY(buoy));
             if (away < least) {
@@ -1879,7 +1881,7 @@ public final class BuoyVote {
 
         int bestLook(int buoy) {
             int best = 0;
-            int fewest = Integer.MAX_VALUE;
+            int fewest = BEYOND_ALL;
             for (int d = 0; d < LOOKS; d++) {
                 setDraws(d, LOOK_E);
                 int most = mostAlike(told.chain(buoy));
@@ -2063,7 +2065,7 @@ public final class BuoyVote {
         }
 
         private int firstOfBest(int set, int[] ways, int base) {
-            int least = Integer.MAX_VALUE;
+            int least = BEYOND_ALL;
             int best = 0;
             for (int next = 0; next < told.buoys; next++) {
                 if ((set >> next & 1) != 0) {
@@ -2109,7 +2111,7 @@ public final class BuoyVote {
 
         int middlePlace() {
             int best = 0;
-            int least = Integer.MAX_VALUE;
+            int least = BEYOND_ALL;
             for (int at = 0; at < SIDE * SIDE; at++) {
                 int sum = 0;
                 for (int buoy = 0; buoy < told.buoys; buoy++) {

@@ -5,6 +5,7 @@ import com.sun.source.tree.CompilationUnitTree;
 import com.sun.source.tree.ImportTree;
 import com.sun.source.tree.LambdaExpressionTree;
 import com.sun.source.tree.MemberReferenceTree;
+import com.sun.source.tree.MemberSelectTree;
 import com.sun.source.tree.MethodInvocationTree;
 import com.sun.source.tree.MethodTree;
 import com.sun.source.tree.SynchronizedTree;
@@ -205,6 +206,16 @@ public final class LanguageTest {
         public Void visitLambdaExpression(LambdaExpressionTree tree, Void unused) {
             check(false, "line " + line(tree) + ": lambda");
             return null;
+        }
+
+        /** Of Integer, Long and Math the rules list functions alone, no constants. */
+        @Override
+        public Void visitMemberSelect(MemberSelectTree tree, Void unused) {
+            Element named = trees.getElement(getCurrentPath());
+            boolean ofLibrary = named != null && named.getKind() == ElementKind.FIELD
+                && named.getEnclosingElement() != null && named.getEnclosingElement().toString().startsWith("java.");
+            check(!ofLibrary, "line " + line(tree) + ": a constant of the library: " + tree);
+            return super.visitMemberSelect(tree, unused);
         }
 
         @Override
